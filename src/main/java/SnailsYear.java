@@ -698,7 +698,7 @@ public final class SnailsYear {
         }
 
         boolean isOfLine(int x) {
-            return has(x) && x >= cells - columns;
+            return x >= cells - columns && x < cells;
         }
 
         int kindAt(int x) {
@@ -710,7 +710,8 @@ public final class SnailsYear {
         }
 
         int besideAt(int x, int side) {
-            return has(x) && side >= 0 && side < SIDES ? beside[x * SIDES + side] : NONE;
+            boolean told = x >= 0 && x < MOST_CELLS && side >= 0 && side < SIDES;
+            return told ? beside[x * SIDES + side] : NONE;
         }
 
         int dampOn(int night) {

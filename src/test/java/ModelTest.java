@@ -249,11 +249,14 @@ public final class ModelTest {
     }
 
     int year(int z, int what) {
-      if (z < 0 || z > 9999 || what < 0 || what > 1) return BAD;
+      return z < 0 || z > 9999 || what < 0 || what > 1 ? BAD : year(z, what, 30);
+    }
+
+    int year(int z, int what, int most) {
       Now w = now.copy();
-      for (int k = 0; k <= 30; k++) {
+      for (int k = 0; k <= most; k++) {
         if (w.begun >= 0) return what == 0 ? k : w.snail;
-        if (k == 30) break;
+        if (k == most) break;
         long q = 7919L * z + 6151L * k + 1;
         long draw = Math.floorDiv(Math.floorMod(q * q, 65521L), 8L);
         night(w, (int) (draw % 7));
@@ -447,7 +450,28 @@ public final class ModelTest {
     for (int c = 0; c < m.told.cells() && well; c++) well = step(number, x, m, told, "cell", c, 0);
   }
 
+  /** LETTUCE everywhere takes so many nights that some YEARS by draws begin behind 30, some behind 31. */
+  private static void longYears() {
+    SnailsYear x = new SnailsYear();
+    Model m = new Model();
+    StringBuilder told = new StringBuilder();
+    String text = "y5,5;";
+    for (int c = 1; c < 25; c++) text += "k" + c + (c < 20 ? ",3;" : ",2;");
+    text = text.replace("k22,2;", "k22,1;");
+    for (char c : text.toCharArray()) step(0, x, m, told, "write", c);
+    step(0, x, m, told, "lay");
+    boolean at30 = false, at31 = false;
+    for (int z = 0; z <= 9999 && !(at30 && at31 && z > 300); z++) {
+      step(0, x, m, told, "year", z, 0);
+      step(0, x, m, told, "year", z, 1);
+      at30 |= m.year(z, 0, 30) == 30;
+      at31 |= m.year(z, 0, 31) == 31;
+    }
+    if (!at30 || !at31) { wrong++; System.out.println("no year begins behind 30, or none behind 31"); }
+  }
+
   public static void main(String[] args) {
+    longYears();
     int runs = args.length > 0 ? Integer.parseInt(args[0]) : 400;
     for (int number = 1; number <= runs && wrong < 5; number++) run(number);
     System.out.println(wrong == 0 ? "the model agrees" : wrong + " answers are not the model's");

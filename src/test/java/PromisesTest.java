@@ -80,6 +80,10 @@ public final class PromisesTest {
     for (String text : atOnce) fault(text, 0);
     fault("s0;y3,2;", 3);
     fault("y3,2;s0;y3,2;", 8);
+    fault("k1,1;y3,2;", 5);
+    fault("r1,1;y3,2;", 5);
+    fault("d1;y3,2;", 3);
+    fault("h1;y3,2;", 3);
     fault("y5,5;y3,2;k6,0;", 10);
     fault("y3,2;s2;", 5);
     fault("s0; ", 3);
@@ -266,6 +270,15 @@ public final class PromisesTest {
     SnailsYear x = yard("y5,2;d0;d0;d1;d0;d0;d0;d0;d0;d0;");
     due(14, "begins()", x.begins(), 30);
     due(15, "due()", x.due(), 0);
+    due(18, "layFor(30, 30, 0)", x.layFor(30, 30, 0), 0);
+    due(18, "layFor(0, 29, 0)", x.layFor(0, 29, 0), NONE);
+    due(13, "where(29)", x.where(29), 6);
+    due(13, "where(30)", x.where(30), 8);
+    x.seen(8, 30);
+    due(23, "salter(1)", x.salter(1), 1);
+    x.seen(6, 30);
+    due(23, "salter(1), not so behind 30", x.salter(1), 0);
+    due(23, "salter(0), not so behind 30", x.salter(0), 0);
     x = yard("y5,2;d0;d0;d0;d1;d0;d0;d0;d0;d0;r31,1;h0;");
     due(14, "begins() behind 31", x.begins(), NONE);
     due(15, "due()", x.due(), 1);
