@@ -452,16 +452,21 @@ public final class ModelTest {
 
   /** LETTUCE everywhere takes so many nights that some YEARS by draws begin behind 30, some behind 31. */
   private static void longYears() {
-    SnailsYear x = new SnailsYear();
-    Model m = new Model();
-    StringBuilder told = new StringBuilder();
     String text = "y5,5;";
     for (int c = 1; c < 25; c++) text += "k" + c + (c < 20 ? ",3;" : ",2;");
     text = text.replace("k22,2;", "k22,1;");
-    for (char c : text.toCharArray()) step(0, x, m, told, "write", c);
-    step(0, x, m, told, "lay");
+    SnailsYear x = null;
+    Model m = null;
+    StringBuilder told = null;
     boolean at30 = false, at31 = false;
     for (int z = 0; z <= 9999 && !(at30 && at31 && z > 300); z++) {
+      if (z % 150 == 0) {                          // an object is promised for 512 calls
+        x = new SnailsYear();
+        m = new Model();
+        told = new StringBuilder();
+        for (char c : text.toCharArray()) step(0, x, m, told, "write", c);
+        step(0, x, m, told, "lay");
+      }
       step(0, x, m, told, "year", z, 0);
       step(0, x, m, told, "year", z, 1);
       at30 |= m.year(z, 0, 30) == 30;

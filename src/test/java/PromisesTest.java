@@ -484,6 +484,7 @@ public final class PromisesTest {
     due(27, "year(0, 0)", x.year(0, 0), 2);
     due(27, "year(0, 1)", x.year(0, 1), 4);
     for (int z = 0; z <= 9999; z += 9) {
+      if (z % 2700 == 0) x = yard("y3,2;d0;");     // an object is promised for 512 calls
       int steps = 0, nights = 0;
       for (; steps < 2 && nights < 30; nights++) steps += drawn(z, nights);
       due(27, "year(" + z + ", 0)", x.year(z, 0), steps < 2 ? NONE : nights);
