@@ -85,6 +85,29 @@ public final class EdgesTest {
     due("fault(), as what is too much is not written", x.fault(), NONE);
   }
 
+  private static void writing() {
+    sentence = "A letter (32 to 126, as in ASCII) comes behind THE TEXT: how long it is. BAD; FULL";
+    SnailsYear x = new SnailsYear();
+    for (int letter : new int[] {31, 127, 0, -1, 128, 255, 32 + 256, 65536 + 's'}) due("write(" + letter + ")", x.write(letter), BAD);
+    due("count(12)", x.count(12), 0);
+    for (int letter = 32; letter <= 126; letter++) due("write(" + letter + ")", x.write(letter), letter - 31);
+    due("fault()", x.fault(), 0);
+    for (int i = 96; i <= 200; i++) due("write, the " + i + "th", x.write(126), i);
+    due("write(126), the 201st", x.write(126), FULL);
+    due("write(32), the 201st", x.write(32), FULL);
+    due("write(127), BAD ahead of FULL", x.write(127), BAD);
+    due("write(31), BAD ahead of FULL", x.write(31), BAD);
+    due("count(12)", x.count(12), 200);
+
+    sentence = "THE TEXT is empty: how long it was";
+    due("wipe(), full", x.wipe(), 200);
+    due("wipe(), empty", x.wipe(), 0);
+    due("fault(), empty", x.fault(), NONE);
+    due("write, there is room again", x.write(126), 1);
+    due("wipe(), one", x.wipe(), 1);
+    due("count(0), the yard stays", x.count(0), 20);
+  }
+
   private static void items() {
     sentence = "ITEMS one behind the other, each a letter, then numbers (one or two figures) parted by , and a ; behind the last one";
     well("y3,2;", "y03,02;", "k1,1;", "k01,01;", "k10,1;", "s1;", "s01;", "d1;", "d01;", "r1,1;", "r10,10;", "r01,01;", "h1;", "h01;");
@@ -563,6 +586,17 @@ public final class EdgesTest {
     due("cell(5, 0), shade again", x.cell(5, 0), 4);
     due("undo() of a salt", x.undo(), 0);
     due("cell(4, 0), lettuce again", x.cell(4, 0), 3);
+    // questions asked between do not come into what is UNDONE
+    for (int deed = 0; deed < 4; deed++) {
+      x.where(30);
+      int got = deed == 0 ? x.pass(2) : deed == 1 ? x.lettuce(1) : deed == 2 ? x.salt(1) : x.stone(3, 1);
+      due("a deed is done", got < 0 ? got : 0, 0);
+      x.year(77, 0);
+      due("undo()", x.undo(), 0);
+      due("count(2)", x.count(2), 0);
+      due("count(3)", x.count(3), 0);
+      for (int c = 0; c < 8; c++) due("cell(" + c + ", 0)", x.cell(c, 0), new int[] {0, 0, 0, 1, 3, 4, 0, 0}[c]);
+    }
     // what is done once more behind an undo is the latest then
     x.lettuce(1);
     x.undo();
@@ -766,6 +800,7 @@ public final class EdgesTest {
     due("latest(1), no grass", x.latest(1), NONE);
     x = yard("y3,2;k1,2;k3,2;k5,2;d1;");
     due("latest(0), each would end it", x.latest(0), NONE);
+    of("y3,2;k1,2;k3,2;k5,2;d9;", "latest(0), each would end it, be it ever so damp", y -> y.latest(0), NONE);
     for (int what : new int[] {-1, 2}) due("latest(" + what + ")", x.latest(what), BAD);
   }
 
@@ -798,6 +833,7 @@ public final class EdgesTest {
     x.salt(2);
     x.pass(2);
     due("count(3)", x.count(3), 1);
+    x.seen(0, 0);
     x.seen(2, 2);
     due("salter(1)", x.salter(1), 1);
     write(x, "x");
@@ -821,6 +857,10 @@ public final class EdgesTest {
     x.seen(5, 2);
     due("salter(0), none", x.salter(0), 0);
     for (int what : new int[] {-1, 2}) due("salter(" + what + ")", x.salter(what), BAD);
+    x = yard("y3,2;k1,2;k3,2;k5,2;d9;");
+    x.seen(4, 1);
+    due("salter(0), each would end it, be it ever so damp", x.salter(0), 0);
+    due("salter(1)", x.salter(1), 1);
     // behind 30 nights: in CELL 8, or with the first SALT only in 7
     x = yard("y5,2;d0;d0;d1;d0;d0;d0;d0;d0;d0;");
     x.seen(7, 30);
@@ -1034,6 +1074,41 @@ public final class EdgesTest {
     due("damp(0)", x.damp(0), 3);
   }
 
+  /** A large YARD LAID behind a small one, and a small one behind a large one, are as they would be alone. */
+  private static void laidBehind() {
+    sentence = "A YARD of R (3 to 5) rows of C (2 to 5) CELLS, LAID behind another";
+    String[] texts = {"y3,2;d9;", "y5,5;k6,1;k18,1;s2;d3;d1;r9,9;h4;", "y3,5;k7,3;d2;", "y5,2;k4,4;k5,1;d1;h1;", "y4,5;k12,2;k14,1;k19,1;s4;d4;",
+        "y5,5;k0,4;k1,4;k2,4;k3,4;k5,4;s4;d9;"};
+    for (String before : texts)
+      for (String text : texts) {
+        SnailsYear alone = write(new SnailsYear(), text), x = write(new SnailsYear(), before);
+        alone.lay();
+        x.lay();
+        x.pass(2);
+        x.wipe();
+        write(x, text);
+        due("lay()", x.lay(), alone.count(0));
+        int last = x.count(0) - 1;
+        int[] got = asked(x, last), want = asked(alone, last);
+        for (int i = 0; i < want.length; i++) due(text + " behind " + before + ", answer " + i, got[i], want[i]);
+      }
+    of("y5,5;k0,4;k1,4;k2,4;k3,4;k5,4;s4;d9;", "layFor(2, 2, 1), four STEPS away by 9, 8 and 7", x -> x.layFor(2, 2, 1), 6);
+    SnailsYear x = yard("y5,5;k23,1;k22,3;");
+    due("lettuce(24)", x.lettuce(24), 2);
+    due("stone(23, 20)", x.stone(23, 20), 1);
+    due("salt(23)", x.salt(23), 0);
+    due("count(4)", x.count(4), 2);
+    due("count(5)", x.count(5), 1);
+    due("count(6)", x.count(6), 1);
+  }
+
+  private static int[] asked(SnailsYear x, int last) {
+    return new int[] {x.begins(), x.due(), x.heir(), x.far(last), x.decides(), x.latest(0), x.latest(1), x.salter(0), x.slept(),
+        x.layFor(2, 2, 0), x.layFor(2, 2, 1), x.layFor(3, 3, 1), x.layFor(3, 3, 2), x.layFor(5, 30, 0), x.layFor(5, 30, 1), x.layFor(5, 30, 2), x.layFor(0, 30, 0), x.where(1),
+        x.likely(3, 3, 0), x.likely(3, 3, 1), x.bet(2, 7), x.year(5, 0), x.year(5, 1), x.damp(7), x.count(3), x.cell(last, 1),
+        x.lettuce(last), x.lettuce(last - 1), x.count(4), x.salt(last - 2), x.count(6), x.stone(last, last - 3), x.undo(), x.undo()};
+  }
+
   private static void nights() {
     sentence = "The DAMP of a night (0 to 999). BAD";
     SnailsYear x = yard("d1;d2;d3;");
@@ -1080,6 +1155,7 @@ public final class EdgesTest {
 
   public static void main(String[] args) {
     letters();
+    writing();
     items();
     shapes();
     rows();
@@ -1107,6 +1183,7 @@ public final class EdgesTest {
     years();
     kept();
     laidAnew();
+    laidBehind();
     nights();
     System.out.println(wrong == 0 ? "every boundary holds" : wrong + " answers are not as due");
     if (wrong != 0) System.exit(1);
