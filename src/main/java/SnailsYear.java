@@ -19,7 +19,7 @@ public final class SnailsYear {
     private static final int UNREACHED = 1000;
 
     private final Letters text = new Letters();
-    private final Reader reader = new Reader();
+    private final Reader reader = new Reader(text);
     private final Walker walker = new Walker();
     private final Scene now = new Scene();
     /** What would be: each question walks the snail here, and leaves NOW as it is. */
@@ -33,11 +33,11 @@ public final class SnailsYear {
     private Yard spare = new Yard();
 
     public SnailsYear() {
-        Letters first = new Letters();
         for (int i = 0; i < FIRST_TEXT.length(); i++) {
-            first.add(FIRST_TEXT.charAt(i));
+            text.add(FIRST_TEXT.charAt(i));
         }
-        reader.readInto(first, laid);
+        reader.readInto(laid);
+        text.length = 0;
         now.setOut(laid);
     }
 
@@ -57,11 +57,11 @@ public final class SnailsYear {
     }
 
     public int fault() {
-        return reader.readInto(text, spare);
+        return reader.readInto(spare);
     }
 
     public int lay() {
-        if (text.length == 0 || reader.readInto(text, spare) != NONE) {
+        if (text.length == 0 || reader.readInto(spare) != NONE) {
             return NO;
         }
         Yard old = laid;
@@ -504,15 +504,18 @@ public final class SnailsYear {
 
     /** Reads a TEXT, ITEM by ITEM, into a YARD, up to the first FAULT. */
     private static final class Reader {
-        private Letters text = new Letters();
+        private final Letters text;
         private int place = 0;
         private int first = 0;
         private int second = 0;
         private boolean yardIsFixed = false;
 
+        Reader(Letters text) {
+            this.text = text;
+        }
+
         /** The place of the FAULT, or NONE; with a FAULT the YARD is worth nothing. */
-        int readInto(Letters from, Yard yard) {
-            text = from;
+        int readInto(Yard yard) {
             place = 0;
             yardIsFixed = false;
             yard.clear();

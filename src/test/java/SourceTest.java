@@ -57,6 +57,14 @@ public final class SourceTest {
     for (char c : source.toCharArray()) must("signs are of ASCII: " + (int) c, c < 128);
   }
 
+  /** All calls of a run share one room: what an object needs is made with it, in fields and constructors alone. */
+  private static void noObjectsByCalls(String source) {
+    for (String line : source.split("\n")) {
+      boolean makes = line.matches("[^*/]*\\b(new|clone|copyOf|copyOfRange|substring|toCharArray|values)\\b.*");
+      must("made with the object: " + line, !makes || line.matches(" +private [^()]* = new .*;") || line.matches(" +this\\.\\w+ = new .*;"));
+    }
+  }
+
   private static void lengths(String source) {
     Matcher method = Pattern.compile("(?m)^( +)[A-Za-z][^=;\n]*\\) \\{\n((?:(?!\\1\\}\n).*\n)*)\\1\\}\n").matcher(source);
     while (method.find()) must("sixty lines at most: " + method.group().split("\n")[0], method.group().split("\n").length <= 60);
@@ -67,6 +75,7 @@ public final class SourceTest {
     face();
     words(source);
     lengths(source);
+    noObjectsByCalls(source);
     System.out.println(wrong == 0 ? "the source keeps to the rules that can be seen" : wrong + " rules are broken");
     if (wrong != 0) System.exit(1);
   }
